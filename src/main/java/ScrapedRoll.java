@@ -191,7 +191,8 @@ public final class ScrapedRoll {
             return refuse(BAD);
         }
         trial.begin(now.skin, thing, now.skin.year + y);
-        return what == 0 ? trial.worth(n, 1) : trial.firstOfA(n);
+        int got = trial.worth(n, 1);
+        return what == 0 ? got : trial.first;
     }
 
     // ---- the lamp
@@ -446,12 +447,12 @@ public final class ScrapedRoll {
             return isCell(c) && height[c] < DEEPEST && !canScrape(c);
         }
 
-        /** Writes over a cell: the new layer's number in it, NONE if that can not be. */
+        /** Writes over a cell: the new layer's number in it, NONE if there is no place for one. */
         private int cover(int c, int ofKind, int ofThing, int letting) {
-            if (!canCover(c)) {
+            int i = isCell(c) ? height[c] : NONE;
+            if (i < 0 || i >= DEEPEST) {
                 return NONE;
             }
-            int i = height[c];
             height[c] = i + 1;
             int s = c * DEEPEST + i;
             kind[s] = ofKind;
@@ -756,8 +757,10 @@ public final class ScrapedRoll {
                 System.arraycopy(steps, 1, steps, 0, MOST_STEPS - 1);
                 size = MOST_STEPS - 1;
             }
-            steps[size] = step;
-            size++;
+            if (size >= 0) {
+                steps[size] = step;
+                size++;
+            }
         }
 
         private int takeLast() {
@@ -838,6 +841,7 @@ public final class ScrapedRoll {
         private final int[] cellLaws = new int[CELLS];
         private int thing = 0;
         private int year = 0;
+        private int first = IDLE;
 
         private void begin(Skin real, int ofThing, int inYear) {
             skin.take(real);
@@ -904,15 +908,22 @@ public final class ScrapedRoll {
                 return worthOfLaw();
             }
             int goal = letting == 1 ? 2 : 0;
-            int best = 2 - goal;
+            int best = letting == 1 ? -1 : 3;
+            int chosen = IDLE;
             for (int stroke = 0; stroke <= IDLE && best != goal; stroke++) {
-                if (canDo(stroke)) {
-                    act(stroke, letting);
-                    int got = worth(n - 1, 1 - letting);
-                    takeBack(stroke);
-                    best = letting == 1 ? Math.max(best, got) : Math.min(best, got);
+                if (!canDo(stroke)) {
+                    continue;
+                }
+                act(stroke, letting);
+                int got = worth(n - 1, 1 - letting);
+                takeBack(stroke);
+                if (letting == 1 ? got > best : got < best) {
+                    best = got;
+                    chosen = stroke;
                 }
             }
+            // The outermost turn comes here last, so that its choice is the one that stays.
+            first = chosen;
             return best;
         }
 
@@ -922,24 +933,6 @@ public final class ScrapedRoll {
                 case 2: return 0;
                 default: return 1;
             }
-        }
-
-        /** The least first stroke by which a gets as much as it can. */
-        private int firstOfA(int n) {
-            int most = NONE;
-            int first = IDLE;
-            for (int stroke = 0; stroke <= IDLE && most < 2; stroke++) {
-                if (canDo(stroke)) {
-                    act(stroke, 1);
-                    int got = worth(n - 1, 0);
-                    takeBack(stroke);
-                    if (got > most) {
-                        most = got;
-                        first = stroke;
-                    }
-                }
-            }
-            return first;
         }
     }
 
