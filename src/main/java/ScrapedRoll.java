@@ -633,8 +633,12 @@ public final class ScrapedRoll {
 
         private int boundIn(int y) {
             int sum = 0;
-            for (int t = 0; t < THINGS; t++) {
-                sum += tally(t, 0, y) + tally(t, 1, y);
+            for (int c = 0; c < CELLS; c++) {
+                for (int i = 0; i < DEEPEST; i++) {
+                    if (bound(c, i, y)) {
+                        sum++;
+                    }
+                }
             }
             return sum;
         }
@@ -888,7 +892,10 @@ public final class ScrapedRoll {
 
         /** The first stroke of the first row of n strokes that makes the law so, NONE if none does. */
         private int firstOfRow(int law, int n) {
-            for (int stroke = 0; stroke < IDLE && n > 0; stroke++) {
+            if (n < 1 || n > MOST_STROKES) {
+                return NONE;
+            }
+            for (int stroke = 0; stroke < IDLE; stroke++) {
                 if (!skin.canDo(stroke)) {
                     continue;
                 }
@@ -904,7 +911,7 @@ public final class ScrapedRoll {
 
         /** What a gets by n turns more; letting is 1 if it is a's turn, 0 if it is b's. */
         private int worth(int n, int letting) {
-            if (n <= 0) {
+            if (n < 1 || n > MOST_TURNS) {
                 return worthOfLaw();
             }
             int goal = letting == 1 ? 2 : 0;

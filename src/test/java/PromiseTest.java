@@ -32,6 +32,8 @@ public final class PromiseTest {
         part();
         images();
         status();
+        everyBadCallCounts();
+        everyNoAndFullCounts();
         count();
         digest();
         refusedCallsChangeNothing();
@@ -875,6 +877,67 @@ public final class PromiseTest {
         due("29: BAD", x.status(0), 5);
         due("29: NO", x.status(1), 2);
         due("29: FULL", x.status(2), 1);
+    }
+
+    /** Every call that can be refused as BAD is counted when it is, once each. */
+    private static void everyBadCallCounts() {
+        ScrapedRoll x = new ScrapedRoll();
+        x.write(6, 0, 0, 0);
+        x.rub(6);
+        x.years(0);
+        x.type(128);
+        x.layers(6);
+        x.of(6, 0, 0);
+        due("29: a roll", x.status(0), 6);
+        x.binds(0, 0, 0);
+        x.rule(5, 0);
+        x.ends(0, 0);
+        x.quarrel(5);
+        x.tear(0, 6);
+        x.hangs(0, 0, 0);
+        x.strokes(5, 1, 0, 0);
+        x.parties(5, 0, 1, 0);
+        due("29: the law", x.status(0), 14);
+        x.seen(0, 0, 0, 0);
+        x.is(0, 0);
+        x.look(0, 0);
+        x.thumbs(5, 0, 0, 0);
+        x.centuries(-1, 0);
+        due("29: the lamp", x.status(0), 19);
+        x.part(2);
+        x.image(2);
+        x.from(2);
+        x.status(3);
+        x.count(7);
+        due("29: what there is", x.status(0), 24);
+        due("29: none was NO", x.status(1), 0);
+        due("29: none was FULL", x.status(2), 0);
+    }
+
+    private static void everyNoAndFullCounts() {
+        ScrapedRoll x = new ScrapedRoll();
+        x.rub(0);
+        x.undo();
+        x.from(0);
+        x.write(0, 0, 0, 0);
+        x.write(0, 0, 0, 0);
+        due("29: NO", x.status(1), 4);
+        for (int i = 0; i < 3; i++) {
+            x.rub(0);
+            x.write(0, 0, 0, 0);
+        }
+        x.rub(0);
+        x.write(0, 0, 0, 0);
+        due("29: FULL, four layers", x.status(2), 1);
+        for (int k = 0; k <= 150; k++) {
+            x.type(' ');
+        }
+        due("29: FULL, 150 bytes", x.status(2), 2);
+        for (int k = 0; k <= 6; k++) {
+            x.seen(0, 3, 0, 0);
+        }
+        due("29: FULL, six seen", x.status(2), 3);
+        due("29: none was BAD", x.status(0), 0);
     }
 
     private static void count() {

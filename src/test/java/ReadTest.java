@@ -98,6 +98,11 @@ public final class ReadTest {
     private static void words() {
         fault("rolls;", 0);
         fault("rol;", 0);
+        fault("holl;", 0);
+        fault("rollz;", 0);
+        fault("rolla;", 0);
+        fault("roll;zub 0;", 5);
+        fault("roll;yearz 1;", 5);
         fault(" wrote;", 1);
         fault("years 1;", 0);
         fault(";roll;", 0);
