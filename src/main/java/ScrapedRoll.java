@@ -331,6 +331,10 @@ public final class ScrapedRoll {
         return c >= 0 && c < CELLS;
     }
 
+    private static int cellOf(int stroke) {
+        return stroke < WRITING ? stroke : stroke - WRITING;
+    }
+
     private static boolean isThing(int thing) {
         return thing >= 0 && thing < THINGS;
     }
@@ -444,7 +448,8 @@ public final class ScrapedRoll {
         }
 
         private boolean canCover(int c) {
-            return isCell(c) && height[c] < DEEPEST && !canScrape(c);
+            int s = topmost(c);
+            return isCell(c) && height[c] < DEEPEST && (s == NONE || rubbed[s] != NONE);
         }
 
         /** Writes over a cell: the new layer's number in it, NONE if there is no place for one. */
@@ -491,7 +496,7 @@ public final class ScrapedRoll {
 
         /** Undoes a stroke that was the last one done to its cell. */
         private void takeBack(int stroke) {
-            int c = stroke < WRITING ? stroke : stroke - WRITING;
+            int c = cellOf(stroke);
             int s = topmost(c);
             if (s == NONE) {
                 return;
@@ -868,24 +873,19 @@ public final class ScrapedRoll {
             return stroke == IDLE || skin.canDo(stroke);
         }
 
+        /** A stroke changes what one cell says, and no other; the idle one is of no cell. */
         private void act(int stroke, int letting) {
-            if (stroke != IDLE) {
+            int c = cellOf(stroke);
+            if (isCell(c)) {
                 skin.act(stroke, thing, letting);
-                weighCell(stroke);
+                cellLaws[c] = skin.lawOfCell(c, thing, year);
             }
         }
 
         private void takeBack(int stroke) {
-            if (stroke != IDLE) {
-                skin.takeBack(stroke);
-                weighCell(stroke);
-            }
-        }
-
-        /** A stroke changes what one cell says, and no other. */
-        private void weighCell(int stroke) {
-            int c = stroke < WRITING ? stroke : stroke - WRITING;
+            int c = cellOf(stroke);
             if (isCell(c)) {
+                skin.takeBack(stroke);
                 cellLaws[c] = skin.lawOfCell(c, thing, year);
             }
         }
@@ -945,7 +945,7 @@ public final class ScrapedRoll {
 
     /** The text's bytes, and the token of it that was cut last. */
     private static final class Text {
-        private static final int END = 0, ODD = 1, STOP = 2, NUMBER = 3, ROLL = 4, WRITE = 5, RUB = 6, YEARS = 7;
+        private static final int END = 0, ODD = 1, STOP = 2, NUMBER = 3, WORD = 4;
         private static final int BLANK = 32, MOST_FIGURES = 2;
 
         private final byte[] bytes = new byte[MOST_BYTES];
@@ -1002,15 +1002,7 @@ public final class ScrapedRoll {
             while (next < size && isLetter(peek())) {
                 next++;
             }
-            if (spells("roll")) {
-                token = ROLL;
-            } else if (spells("write")) {
-                token = WRITE;
-            } else if (spells("rub")) {
-                token = RUB;
-            } else {
-                token = spells("years") ? YEARS : ODD;
-            }
+            token = WORD;
         }
 
         /** A run with a third figure is no number, whatever it would be worth. */
@@ -1025,8 +1017,9 @@ public final class ScrapedRoll {
             token = next - start <= MOST_FIGURES ? NUMBER : ODD;
         }
 
+        /** Whether the token is this word. */
         private boolean spells(String word) {
-            if (next - start != word.length() || start < 0 || next > MOST_BYTES) {
+            if (token != WORD || next - start != word.length() || start < 0 || next > MOST_BYTES) {
                 return false;
             }
             for (int k = 0; k < word.length(); k++) {
@@ -1053,7 +1046,7 @@ public final class ScrapedRoll {
         private static int rollInto(Text text, Skin skin) {
             skin.wipe();
             text.cutFirst();
-            if (text.token != Text.ROLL || !stops(text)) {
+            if (!text.spells("roll") || !stops(text)) {
                 return NONE;
             }
             text.cutNext();
@@ -1074,12 +1067,13 @@ public final class ScrapedRoll {
         }
 
         private static boolean itemOnto(Text text, Skin skin) {
-            switch (text.token) {
-                case Text.WRITE: return writeOnto(text, skin);
-                case Text.RUB: return rubOnto(text, skin);
-                case Text.YEARS: return yearsOnto(text, skin);
-                default: return false;
+            if (text.spells("write")) {
+                return writeOnto(text, skin);
             }
+            if (text.spells("rub")) {
+                return rubOnto(text, skin);
+            }
+            return text.spells("years") && yearsOnto(text, skin);
         }
 
         /** A cell is looked at as soon as it is named: a fault in it comes ahead of those behind. */
