@@ -129,6 +129,34 @@ public final class FaceTest {
         long elements = measure(x, found);
         must(found.size() <= 80, "objects of one roll: " + found.size());
         must(elements <= 1500, "fields and elements of one roll: " + elements);
+        useAll(x);
+        Map<Object, Boolean> later = new IdentityHashMap<>();
+        measure(x, later);
+        must(later.keySet().equals(found.keySet()), "rows are made once and used again");
+    }
+
+    private static void useAll(ScrapedRoll x) {
+        for (char b : "roll;write 0 0 0 1;".toCharArray()) {
+            x.type(b);
+        }
+        x.read();
+        x.years(4);
+        x.rub(0);
+        x.write(0, 1, 0, 0);
+        x.seen(0, 0, 1, 1);
+        x.image(0);
+        x.image(1);
+        x.strokes(0, 2, 9, 0);
+        x.parties(0, 9, 3, 0);
+        x.look(0, 0);
+        x.thumbs(0, 4, 3, 1);
+        x.centuries(7, 30);
+        x.undo();
+        x.from(1);
+        x.digest();
+        x.forget();
+        x.clear();
+        x.roll();
     }
 
     private static long measure(Object o, Map<Object, Boolean> found) throws Exception {
